@@ -214,7 +214,7 @@ public final class ByTheThumbs {
         }
         told.clear();
         told.add(all ? 0 : 1);
-        told.add(fallenSince(before, now, State.DEAD));
+        told.add(moreSince(before, now, State.DEAD));
         return done;
     }
 
@@ -278,7 +278,7 @@ public final class ByTheThumbs {
         }
     }
 
-    private int fallenSince(State earlier, State later, int fate) {
+    private int moreSince(State earlier, State later, int fate) {
         return Integer.bitCount(later.bits(fate, roster.count)) - Integer.bitCount(earlier.bits(fate, roster.count));
     }
 
@@ -292,13 +292,13 @@ public final class ByTheThumbs {
         int up = crowd.up(favour, 0, 0);
         told.clear();
         told.add(crowd.seats.sum(Lines.PEOPLE, up));
-        told.add(crowd.spares(favour) ? 1 : 0);
+        told.add(crowd.spares(favour, 0, 0) ? 1 : 0);
         return up;
     }
 
     public int mercy() {
         for (int favour = 0; favour <= 99; favour++) {
-            if (crowd.spares(favour)) {
+            if (crowd.spares(favour, 0, 0)) {
                 return favour;
             }
         }
@@ -457,7 +457,7 @@ public final class ByTheThumbs {
             if (roster.of(Lines.OWNER, i) != owner || !now.isHere(i)) {
                 continue;
             }
-            int price = roster.of(Lines.HIRE, i) * (crowd.spares(now.favour(i)) ? 20 : 50);
+            int price = roster.of(Lines.HIRE, i) * (crowd.spares(now.favour(i), 0, 0) ? 20 : 50);
             sum += price;
             many++;
             if (price > most) {
@@ -731,8 +731,8 @@ public final class ByTheThumbs {
             }
         }
         told.clear();
-        told.add(fallenSince(now, trial, State.DEAD));
-        told.add(fallenSince(now, trial, State.FREED));
+        told.add(moreSince(now, trial, State.DEAD));
+        told.add(moreSince(now, trial, State.FREED));
         told.add(trial.means());
         return fought;
     }
@@ -865,27 +865,31 @@ public final class ByTheThumbs {
             return true;
         }
 
-        boolean hasDigit(int least, int most) {
-            int sign = peek();
-            return sign >= '0' + least && sign <= '0' + most;
-        }
-
         /** A digit from the least to the most; NONE if there is none. */
         int takeDigit(int least, int most) {
-            return hasDigit(least, most) ? next() - '0' : NONE;
+            int digit = peek() - '0';
+            if (digit < least || digit > most) {
+                return NONE;
+            }
+            at++;
+            return digit;
         }
 
         /** A number of 1 to so many digits; NONE if there is no digit. */
         int takeNumber(int mostDigits) {
-            int number = takeDigit(0, 9);
-            for (int i = 1; i < mostDigits && hasDigit(0, 9); i++) {
-                number = number * 10 + takeDigit(0, 9);
+            int number = NONE;
+            for (int i = 0; i < mostDigits; i++) {
+                int digit = takeDigit(0, 9);
+                if (digit == NONE) {
+                    break;
+                }
+                number = i == 0 ? digit : number * 10 + digit;
             }
             return number;
         }
     }
 
-    /** The ROW: no call tells more numbers than there are FIGHTERS. */
+    /** The ROW: the longest ones name each of the most FIGHTERS once. */
     private static final class Row {
         final long[] numbers = new long[MOST];
         int size;
@@ -1144,7 +1148,12 @@ public final class ByTheThumbs {
             }
             // Each round but the last lifts one more at least.
             for (int round = 0; round < MOST; round++) {
-                int more = up | followers(Integer.bitCount(up)) & ~home;
+                int ups = Integer.bitCount(up);
+                int more = up;
+                for (int i = 0; i < seats.count; i++) {
+                    int wants = seats.of(Lines.FOLLOWS, i);
+                    more |= wants != 0 && wants <= ups ? 1 << i & ~home : 0;
+                }
                 if (more == up) {
                     break;
                 }
@@ -1153,20 +1162,7 @@ public final class ByTheThumbs {
             return up;
         }
 
-        private int followers(int ups) {
-            int followers = 0;
-            for (int i = 0; i < seats.count; i++) {
-                int wants = seats.of(Lines.FOLLOWS, i);
-                followers |= wants != 0 && wants <= ups ? 1 << i : 0;
-            }
-            return followers;
-        }
-
-        boolean spares(int favour) {
-            return sparesIf(favour, 0, 0);
-        }
-
-        private boolean sparesIf(int favour, int wonOver, int home) {
+        boolean spares(int favour, int wonOver, int home) {
             int up = up(favour, wonOver, home);
             return 2 * seats.sum(Lines.PEOPLE, up) >= seats.sum(Lines.PEOPLE, ~home);
         }
@@ -1176,7 +1172,7 @@ public final class ByTheThumbs {
             int all = (1 << seats.count) - 1;
             int best = all;
             for (int set = 0; set < all; set++) {
-                if (Integer.bitCount(set) < Integer.bitCount(best) && sparesIf(favour, set, 0)) {
+                if (Integer.bitCount(set) < Integer.bitCount(best) && spares(favour, set, 0)) {
                     best = set;
                 }
             }
@@ -1184,10 +1180,10 @@ public final class ByTheThumbs {
         }
 
         int tipping(int favour) {
-            boolean spared = spares(favour);
+            boolean spared = spares(favour, 0, 0);
             int tipping = 0;
             for (int i = 0; i < seats.count; i++) {
-                tipping |= sparesIf(favour, 0, 1 << i) != spared ? 1 << i : 0;
+                tipping |= spares(favour, 0, 1 << i) != spared ? 1 << i : 0;
             }
             return tipping;
         }
@@ -1211,7 +1207,7 @@ public final class ByTheThumbs {
             }
             text.start(MOST_SIGNS);
             size = 0;
-            return readExpression(text, 0) && text.ended() ? NONE : text.at;
+            return readLevel(text, 0, 0) && text.ended() ? NONE : text.at;
         }
 
         private void step(int step) {
@@ -1221,33 +1217,22 @@ public final class ByTheThumbs {
             }
         }
 
-        private boolean readExpression(Text text, int depth) {
-            if (!readSum(text, depth)) {
+        /** Operators of level 0 bind least; level 3 has none, but things with - ahead. */
+        private boolean readLevel(Text text, int depth, int level) {
+            if (level > 2) {
+                return readSigned(text, depth);
+            }
+            if (!readLevel(text, depth, level + 1)) {
                 return false;
             }
-            int sign = text.peek();
-            if (sign != '<' && sign != '>' && sign != '=') {
-                return true;
-            }
-            text.at++;
-            if (!readSum(text, depth)) {
-                return false;
-            }
-            step(-sign);
-            return true;
-        }
-
-        private boolean readSum(Text text, int depth) {
-            if (!readProduct(text, depth)) {
-                return false;
-            }
-            for (int i = 0; i < MOST_SIGNS; i++) {
+            int mostOperators = level == 0 ? 1 : MOST_SIGNS;
+            for (int i = 0; i < mostOperators; i++) {
                 int sign = text.peek();
-                if (sign != '+' && sign != '-') {
-                    return true;
+                if (levelOf(sign) != level) {
+                    break;
                 }
                 text.at++;
-                if (!readProduct(text, depth)) {
+                if (!readLevel(text, depth, level + 1)) {
                     return false;
                 }
                 step(-sign);
@@ -1255,22 +1240,13 @@ public final class ByTheThumbs {
             return true;
         }
 
-        private boolean readProduct(Text text, int depth) {
-            if (!readSigned(text, depth)) {
-                return false;
+        private static int levelOf(int sign) {
+            switch (sign) {
+                case '<': case '>': case '=': return 0;
+                case '+': case '-': return 1;
+                case '*': case '/': return 2;
+                default: return NONE;
             }
-            for (int i = 0; i < MOST_SIGNS; i++) {
-                int sign = text.peek();
-                if (sign != '*' && sign != '/') {
-                    return true;
-                }
-                text.at++;
-                if (!readSigned(text, depth)) {
-                    return false;
-                }
-                step(-sign);
-            }
-            return true;
         }
 
         private boolean readSigned(Text text, int depth) {
@@ -1293,10 +1269,11 @@ public final class ByTheThumbs {
                     return false;
                 }
                 text.at++;
-                return readExpression(text, depth + 1) && text.take(')');
+                return readLevel(text, depth + 1, 0) && text.take(')');
             }
-            if (text.hasDigit(0, 9)) {
-                step(text.takeNumber(3));
+            int number = text.takeNumber(3);
+            if (number != NONE) {
+                step(number);
                 return true;
             }
             if (!isLetter(text.peek())) {
@@ -1444,7 +1421,7 @@ public final class ByTheThumbs {
 
         private void judge(State state, int loser) {
             int price = 50 * roster.of(Lines.HIRE, loser);
-            if (!crowd.spares(state.favour(loser)) && state.means() >= price) {
+            if (!crowd.spares(state.favour(loser), 0, 0) && state.means() >= price) {
                 state.cells[State.FATE + loser] = State.DEAD;
                 state.pay(roster.of(Lines.OWNER, loser), price);
             }
