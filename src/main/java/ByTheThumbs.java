@@ -74,7 +74,7 @@ public final class ByTheThumbs {
             return -1 - wrong;
         }
         past.clear();
-        return crowd.seats.enter();
+        return crowd.enter();
     }
 
     public int rule() {
@@ -292,17 +292,12 @@ public final class ByTheThumbs {
         int up = crowd.up(favour, 0, 0);
         told.clear();
         told.add(crowd.seats.sum(Lines.PEOPLE, up));
-        told.add(crowd.spares(favour, 0, 0) ? 1 : 0);
+        told.add(crowd.spares(favour) ? 1 : 0);
         return up;
     }
 
     public int mercy() {
-        for (int favour = 0; favour <= 99; favour++) {
-            if (crowd.spares(favour, 0, 0)) {
-                return favour;
-            }
-        }
-        return NOTHING_FOUND;
+        return crowd.spares(99) ? crowd.leastSpared : NOTHING_FOUND;
     }
 
     public int claque(int fighter) {
@@ -457,7 +452,7 @@ public final class ByTheThumbs {
             if (roster.of(Lines.OWNER, i) != owner || !now.isHere(i)) {
                 continue;
             }
-            int price = roster.of(Lines.HIRE, i) * (crowd.spares(now.favour(i), 0, 0) ? 20 : 50);
+            int price = roster.of(Lines.HIRE, i) * (crowd.spares(now.favour(i)) ? 20 : 50);
             sum += price;
             many++;
             if (price > most) {
@@ -1139,6 +1134,22 @@ public final class ByTheThumbs {
     /** SEATS, and whom they spare. */
     private static final class Crowd {
         final Lines seats = new Lines(Lines.SEAT_FORM, 76);
+        /** With more FAVOUR no SEAT goes down: so this tells of all, and SEATS are asked once. */
+        int leastSpared;
+
+        /** Those that were read last come to the others: how many they are. */
+        int enter() {
+            int lines = seats.enter();
+            leastSpared = 0;
+            for (int favour = 0; favour <= 99 && !sparesIf(favour, 0, 0); favour++) {
+                leastSpared = favour + 1;
+            }
+            return lines;
+        }
+
+        boolean spares(int favour) {
+            return favour >= leastSpared;
+        }
 
         /** SEATS that are up, if some are won over and some went home. */
         int up(int favour, int wonOver, int home) {
@@ -1162,7 +1173,7 @@ public final class ByTheThumbs {
             return up;
         }
 
-        boolean spares(int favour, int wonOver, int home) {
+        private boolean sparesIf(int favour, int wonOver, int home) {
             int up = up(favour, wonOver, home);
             return 2 * seats.sum(Lines.PEOPLE, up) >= seats.sum(Lines.PEOPLE, ~home);
         }
@@ -1172,7 +1183,7 @@ public final class ByTheThumbs {
             int all = (1 << seats.count) - 1;
             int best = all;
             for (int set = 0; set < all; set++) {
-                if (Integer.bitCount(set) < Integer.bitCount(best) && spares(favour, set, 0)) {
+                if (Integer.bitCount(set) < Integer.bitCount(best) && sparesIf(favour, set, 0)) {
                     best = set;
                 }
             }
@@ -1180,10 +1191,10 @@ public final class ByTheThumbs {
         }
 
         int tipping(int favour) {
-            boolean spared = spares(favour, 0, 0);
+            boolean spared = spares(favour);
             int tipping = 0;
             for (int i = 0; i < seats.count; i++) {
-                tipping |= spares(favour, 0, 1 << i) != spared ? 1 << i : 0;
+                tipping |= sparesIf(favour, 0, 1 << i) != spared ? 1 << i : 0;
             }
             return tipping;
         }
@@ -1421,7 +1432,7 @@ public final class ByTheThumbs {
 
         private void judge(State state, int loser) {
             int price = 50 * roster.of(Lines.HIRE, loser);
-            if (!crowd.spares(state.favour(loser), 0, 0) && state.means() >= price) {
+            if (!crowd.spares(state.favour(loser)) && state.means() >= price) {
                 state.cells[State.FATE + loser] = State.DEAD;
                 state.pay(roster.of(Lines.OWNER, loser), price);
             }

@@ -122,7 +122,7 @@ public final class ModelTest {
                 return text;
             }
             StringBuilder b = new StringBuilder(text);
-            String signs = "nsplhwfaed0123456789;,<>=+-*/()x \u0000\u00e9";
+            String signs = "nsplhwfaedb0123456789;,:.<>=+-*/()x \u0000\u00e9";
             int at = random.nextInt(b.length() + 1);
             char sign = signs.charAt(random.nextInt(signs.length()));
             switch (random.nextInt(4)) {

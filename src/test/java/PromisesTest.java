@@ -186,6 +186,8 @@ public final class PromisesTest {
         due("4: ends too early", fighters(x, "n11"), -4);
         due("4: ends with ;", fighters(x, "n1110;"), -7);
         due("4: the second is bad", fighters(x, "n1110;s1111;p1191"), -16);
+        due("4: a sign behind 9 is no digit", fighters(x, "n1110:"), -6);
+        due("4: a sign ahead of 0 is no digit", fighters(x, "n1110/"), -6);
         due("4: nothing came of all these", x.count(0), 0);
         due("4: the text is emptied", x.count(13), 0);
         due("4: two", fighters(x, "l9930;p11199"), 2);
@@ -264,6 +266,8 @@ public final class PromisesTest {
         due("6: a letter behind a digit", rule(x, "1s"), -2);
         due("6: a bracket behind a thing", rule(x, "s(1)"), -2);
         due("6: +", rule(x, "+1"), -1);
+        due("6: a sign behind 9 is no digit", rule(x, "1:"), -2);
+        due("6: a sign ahead of 0 is no digit", rule(x, "1."), -2);
         due("6: no letter", rule(x, "b"), -1);
         due("6: many -", rule(x, "1--------------------------------------2"), 0);
         due("6: the text is emptied", x.count(13), 0);
@@ -557,8 +561,8 @@ public final class PromisesTest {
         due("17: nothing to be undone", x.count(11), 2);
         due("17: empty", games(x, ""), 0);
         row("17: empty", x, 0, 0);
-        String[] bad = {"x", "f", "f0", "fx", "f0x", "d", "d0", "s", "sx", "b", "d1x", "f01d", "f01 d1", "d11"};
-        int[] at = {0, 1, 2, 1, 2, 1, 1, 1, 1, 1, 2, 4, 3, 2};
+        String[] bad = {"x", "f", "f0", "fx", "f0x", "d", "d0", "s", "sx", "b", "d1x", "f01d", "f01 d1", "d11", "f:1", "f0:", "s:", "b/", "d:"};
+        int[] at = {0, 1, 2, 1, 2, 1, 1, 1, 1, 1, 2, 4, 3, 2, 1, 2, 1, 1, 1};
         for (int i = 0; i < bad.length; i++) {
             due("17: " + bad[i], games(x, bad[i]), -1 - at[i]);
         }
