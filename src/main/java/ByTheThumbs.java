@@ -1304,7 +1304,8 @@ public final class ByTheThumbs {
         /** STRENGTH of one against the other. */
         int value(Lines roster, State state, int one, int other) {
             int high = 0;
-            for (int i = 0; i < size; i++) {
+            // A RULE that was read never asks for more or less than the stack has; the tests keep each index safe by itself.
+            for (int i = 0; i < size && high < MOST_SIGNS; i++) {
                 int step = steps[i];
                 if (step >= 0) {
                     stack[high] = step;
@@ -1312,9 +1313,9 @@ public final class ByTheThumbs {
                 } else if (isLetter(-step)) {
                     stack[high] = letter(-step, roster, state, one, other);
                     high++;
-                } else if (step == -NEGATE) {
+                } else if (step == -NEGATE && high > 0) {
                     stack[high - 1] = -stack[high - 1];
-                } else {
+                } else if (high > 1) {
                     high--;
                     stack[high - 1] = joined(-step, stack[high - 1], stack[high]);
                 }

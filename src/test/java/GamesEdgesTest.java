@@ -24,7 +24,10 @@ public final class GamesEdgesTest {
         fightDeathByMeans();
         fightDeathByFavour();
         fightSword();
-        fightFull();
+        for (int owner = 0; owner < 4; owner++) {
+            fightFull(owner, true);
+            fightFull(owner, false);
+        }
         daysRange();
         daysHurt();
         song();
@@ -34,6 +37,7 @@ public final class GamesEdgesTest {
         undoWhat();
         undoWhatAnswersNothing();
         undoForgets();
+        lastCalls();
         Sand.finish();
     }
 
@@ -517,22 +521,25 @@ public final class GamesEdgesTest {
         Sand.due("13: the DEAD one has FOUGHT", dead.fighter(1, 6), 1);
     }
 
-    /** Eight FIGHTERS, each with a count of his own in each thing. */
-    private static void fightFull() {
-        ByTheThumbs x = Sand.world("n81000;n71000;n61000;n51000;n41000;n31000;n21000;n11000", "");
-        Sand.rule(x, "s");
+    /** Eight FIGHTERS of one OWNER, each with a count of his own in each thing. */
+    private static void fightFull(int owner, boolean lesserWins) {
+        ByTheThumbs x = new ByTheThumbs();
+        for (int skill = 8; skill >= 1; skill--) {
+            Sand.fighters(x, "n" + skill + "1" + owner + "0");
+        }
+        Sand.rule(x, lesserWins ? "s" : "0-s");
         x.set(0, 9);
         int[][] tally = new int[9][8];
-        int means = 1000;
         for (int one = 0; one < 8; one++) {
             for (int other = one + 1; other < 8; other++) {
-                tally[5][other] = tally[5][other] >= 7 ? 9 : tally[5][other] + 3;
-                tally[6][one]++;
-                tally[6][other]++;
-                tally[7][one]++;
-                Sand.due("13: the lesser number wins", x.fight(other, one), one);
-                means -= 2;
-                x.sheet(0, 8, 10, 3);
+                int winner = lesserWins ? one : other;
+                int loser = one + other - winner;
+                boolean can = tally[5][loser] < 9;
+                Sand.due("13: " + one + " with " + other, x.fight(other, one), can ? winner : -3);
+                tally[5][loser] = Math.min(9, tally[5][loser] + 3);
+                tally[6][one] += can ? 1 : 0;
+                tally[6][other] += can ? 1 : 0;
+                tally[7][winner] += can ? 1 : 0;
             }
             // An object is used for 512 calls at most.
             if (one % 3 == 0) {
@@ -546,15 +553,25 @@ public final class GamesEdgesTest {
                 dueFull("14: after " + one, x, tally);
             }
         }
-        Sand.due("13: MEANS", x.count(3), means);
-        Sand.due("13: PURSE", x.purse(0), 1000 - means);
+        Sand.due("13: MEANS", x.count(3), 1000 - sum(tally[6]));
+        for (int i = 0; i < 4; i++) {
+            Sand.due("13: PURSE of " + i, x.purse(i), i == owner ? sum(tally[6]) : 0);
+        }
         Sand.due("13: one pair of ARMS", x.count(8), 1);
         Sand.due("13: DAY", x.count(4), 16);
+        Sand.due("13: all HERE", x.count(5), 255);
+    }
+
+    private static int sum(int[] numbers) {
+        int sum = 0;
+        for (int number : numbers) {
+            sum += number;
+        }
+        return sum;
     }
 
     private static void dueFull(String what, ByTheThumbs x, int[][] tally) {
         for (int i = 0; i < 8; i++) {
-            Sand.due(what + ": FAVOUR of " + i, x.fighter(i, 4), 10 + 3 * i);
             for (int thing = 5; thing <= 8; thing++) {
                 Sand.due(what + ": " + thing + " of " + i, x.fighter(i, thing), tally[thing][i]);
             }
@@ -819,5 +836,15 @@ public final class GamesEdgesTest {
         unkept.days(1);
         Sand.due("18: nothing kept", unkept.again(0), false);
         Sand.due("18: not forgotten", unkept.undo(), 0);
+    }
+
+    /** An object is used for at most 512 calls: the last of them answers as the first does. */
+    private static void lastCalls() {
+        ByTheThumbs x = new ByTheThumbs();
+        for (int i = 1; i <= 510; i++) {
+            x.days(1);
+        }
+        Sand.due("the 511th call", x.undo(), 11);
+        Sand.due("the 512th call", x.count(4), 509);
     }
 }
