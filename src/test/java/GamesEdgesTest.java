@@ -10,6 +10,7 @@ public final class GamesEdgesTest {
         strengthNames();
         strengthThings();
         strengthReckoning();
+        strengthByShorterRules();
         set();
         setSword();
         sheetRanges();
@@ -28,6 +29,7 @@ public final class GamesEdgesTest {
             fightFull(owner, true);
             fightFull(owner, false);
         }
+        newOnesCome();
         daysRange();
         daysHurt();
         song();
@@ -193,6 +195,25 @@ public final class GamesEdgesTest {
         Sand.due("10: the least by -1", strengthBy("128*256*256*256/-1"), LEAST);
         Sand.due("10: a product wraps to 0", strengthBy("256*256*256*256"), 0);
         Sand.due("10: ints, not longs, are compared", strengthBy("128*256*256*256<0"), 1);
+    }
+
+    /** Of a longer RULE, or a refused one, or a law, nothing is left behind a shorter one. */
+    private static void strengthByShorterRules() {
+        String[] longer = {"-s", "1-s", "s*9", "-(s+h-w)*7", "s<9", "-s-"};
+        for (String before : longer) {
+            for (String between : new String[] {"", "-s", "7"}) {
+                ByTheThumbs x = two("n51000", "l31000");
+                Sand.rule(x, before);
+                Sand.rule(x, between);
+                Sand.law(x, before);
+                Sand.due("10: s behind " + before, Sand.rule(x, "s"), 0);
+                Sand.due("10: s behind " + before, x.strength(0, 1), 5);
+                Sand.due("10: 8 behind it", Sand.rule(x, "8"), 0);
+                Sand.due("10: 8 behind it", x.strength(0, 1), 8);
+                Sand.due("10: -s behind it", Sand.rule(x, "-s"), 0);
+                Sand.due("10: -s behind it", x.strength(0, 1), -5);
+            }
+        }
     }
 
     // ---- 11: set
@@ -575,6 +596,28 @@ public final class GamesEdgesTest {
             for (int thing = 5; thing <= 8; thing++) {
                 Sand.due(what + ": " + thing + " of " + i, x.fighter(i, thing), tally[thing][i]);
             }
+        }
+    }
+
+    /** FIGHTERS that come later are as at first, and those that were there stay as they are. */
+    private static void newOnesCome() {
+        for (int here = 2; here <= 7; here++) {
+            ByTheThumbs x = new ByTheThumbs();
+            Sand.fighters(x, Sand.EIGHT.substring(0, 7 * here - 1));
+            Sand.rule(x, "1");
+            for (int i = 0; i < here; i++) {
+                x.fight(i, (i + 1) % here);
+            }
+            x.sheet(0, here, 40, 1);
+            Sand.due("4: the others come", Sand.fighters(x, Sand.EIGHT.substring(7 * here).replace("1100", "1107")), 8 - here);
+            for (int i = 0; i < 8; i++) {
+                int[] want = i < here ? new int[] {40 + i, 3, 2, 1, 0} : new int[] {70, 0, 0, 0, 0};
+                for (int what = 4; what <= 8; what++) {
+                    Sand.due("4: of " + here + " and more, " + what + " of " + i, x.fighter(i, what), want[what - 4]);
+                }
+            }
+            Sand.due("4: MEANS stay", x.count(3), 1000 - 2 * here);
+            Sand.due("4: PURSES stay", x.purse(0), 2 * here);
         }
     }
 
