@@ -388,7 +388,8 @@ public final class ByTheThumbs {
                     continue;
                 }
                 // As longs: the difference of two ints may be no int.
-                long gap = Math.abs((long) arena.rule.value(roster, now, one, other) - arena.rule.value(roster, now, other, one));
+                long strength = arena.rule.value(roster, now, one, other);
+                long gap = Math.abs(strength - arena.rule.value(roster, now, other, one));
                 if (pair == NONE || gap < least) {
                     pair = one * MOST + other;
                     least = gap;
@@ -1304,7 +1305,8 @@ public final class ByTheThumbs {
         /** STRENGTH of one against the other. */
         int value(Lines roster, State state, int one, int other) {
             int high = 0;
-            // A RULE that was read never asks for more or less than the stack has; the tests keep each index safe by itself.
+            // A RULE that was read never asks for more or less than the stack has; the tests keep each index
+            // safe by itself.
             for (int i = 0; i < size && high < MOST_SIGNS; i++) {
                 int step = steps[i];
                 if (step >= 0) {
